@@ -198,7 +198,7 @@ public final class FieldTower {
     private int raise(int a, int n) {
         int result = 1;
         int square = a;
-        for (int bit = 0; bit < EXPONENT_BITS; bit++) {
+        for (int bit = 0; bit < EXPONENT_BITS && n >> bit > 0; bit++) {
             if ((n >> bit & 1) == 1) {
                 result = product(result, square);
             }

@@ -5,30 +5,8 @@ public final class AddTest {
         Due.due(81, "add(80, 80)", Due.fresh(81).add(80, 80), 40);
         Due.due(81, "add(41, 40)", Due.fresh(81).add(41, 40), 78);
         for (int q : Due.SIZES) {
-            everyPair(q);
-            outsidersAreRefused(q);
+            Due.everyPair(q, "add", FieldTower::add, new Reference(q)::sum);
         }
         Due.end();
-    }
-
-    private static void everyPair(int q) {
-        Reference reference = new Reference(q);
-        for (int a = 0; a < q; a++) {
-            FieldTower tower = Due.fresh(q);
-            for (int b = 0; b < q; b++) {
-                Due.due(q, "add(" + a + ", " + b + ")", tower.add(a, b), reference.sum(a, b));
-            }
-        }
-    }
-
-    private static void outsidersAreRefused(int q) {
-        for (int outsider : Due.outsiders(q)) {
-            FieldTower tower = Due.fresh(q);
-            for (int a = 0; a < q; a++) {
-                Due.due(q, "add(" + a + ", " + outsider + ")", tower.add(a, outsider), -1);
-                Due.due(q, "add(" + outsider + ", " + a + ")", tower.add(outsider, a), -1);
-            }
-            Due.due(q, "add(" + outsider + ", " + outsider + ")", tower.add(outsider, outsider), -1);
-        }
     }
 }

@@ -1,3 +1,6 @@
+import java.util.function.IntBinaryOperator;
+import java.util.function.IntUnaryOperator;
+
 /** Counts the answers that are not as due; a test ends with exit code 1 if there was one. */
 final class Due {
     static final int[] SIZES = {64, 81};
@@ -28,6 +31,42 @@ final class Due {
     /** Numbers that are not elements; for q = 64 the elements of the greater field are among them. */
     static int[] outsiders(int q) {
         return new int[] {-1, -2, -q, q, q + 1, q == 64 ? 80 : 100, 1000000, Integer.MIN_VALUE, Integer.MAX_VALUE};
+    }
+
+    interface SingleCall {
+        int on(FieldTower tower, int a);
+    }
+
+    interface PairCall {
+        int on(FieldTower tower, int a, int b);
+    }
+
+    /** Every element, and numbers that are none, as the one argument. */
+    static void everySingle(int q, String name, SingleCall call, IntUnaryOperator term) {
+        FieldTower tower = fresh(q);
+        for (int a = 0; a < q; a++) {
+            due(q, name + "(" + a + ")", call.on(tower, a), term.applyAsInt(a));
+        }
+        for (int outsider : outsiders(q)) {
+            due(q, name + "(" + outsider + ")", call.on(tower, outsider), -1);
+        }
+    }
+
+    /** Every pair of elements, and pairs in which one or both are none. */
+    static void everyPair(int q, String name, PairCall call, IntBinaryOperator term) {
+        for (int a = 0; a < q; a++) {
+            FieldTower tower = fresh(q);
+            for (int b = 0; b < q; b++) {
+                due(q, name + "(" + a + ", " + b + ")", call.on(tower, a, b), term.applyAsInt(a, b));
+            }
+            for (int outsider : outsiders(q)) {
+                due(q, name + "(" + a + ", " + outsider + ")", call.on(tower, a, outsider), -1);
+                due(q, name + "(" + outsider + ", " + a + ")", call.on(tower, outsider, a), -1);
+            }
+        }
+        for (int outsider : outsiders(q)) {
+            due(q, name + "(" + outsider + ", " + outsider + ")", call.on(fresh(q), outsider, outsider), -1);
+        }
     }
 
     static void end() {

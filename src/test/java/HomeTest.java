@@ -9,24 +9,8 @@ public final class HomeTest {
         Due.due(81, "home(68)", Due.fresh(81).home(68), 9);
         Due.due(81, "home(3)", Due.fresh(81).home(3), 81);
         for (int q : Due.SIZES) {
-            everyElement(q);
-            outsidersAreRefused(q);
+            Due.everySingle(q, "home", FieldTower::home, new Reference(q)::home);
         }
         Due.end();
-    }
-
-    private static void everyElement(int q) {
-        Reference reference = new Reference(q);
-        FieldTower tower = Due.fresh(q);
-        for (int a = 0; a < q; a++) {
-            Due.due(q, "home(" + a + ")", tower.home(a), reference.home(a));
-        }
-    }
-
-    private static void outsidersAreRefused(int q) {
-        FieldTower tower = Due.fresh(q);
-        for (int outsider : Due.outsiders(q)) {
-            Due.due(q, "home(" + outsider + ")", tower.home(outsider), -1);
-        }
     }
 }

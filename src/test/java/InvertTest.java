@@ -8,24 +8,8 @@ public final class InvertTest {
         Due.due(81, "invert(2)", Due.fresh(81).invert(2), 2);
         Due.due(81, "invert(80)", Due.fresh(81).invert(80), 28);
         for (int q : Due.SIZES) {
-            everyElement(q);
-            outsidersAreRefused(q);
+            Due.everySingle(q, "invert", FieldTower::invert, new Reference(q)::inverse);
         }
         Due.end();
-    }
-
-    private static void everyElement(int q) {
-        Reference reference = new Reference(q);
-        FieldTower tower = Due.fresh(q);
-        for (int a = 0; a < q; a++) {
-            Due.due(q, "invert(" + a + ")", tower.invert(a), reference.inverse(a));
-        }
-    }
-
-    private static void outsidersAreRefused(int q) {
-        FieldTower tower = Due.fresh(q);
-        for (int outsider : Due.outsiders(q)) {
-            Due.due(q, "invert(" + outsider + ")", tower.invert(outsider), -1);
-        }
     }
 }

@@ -9,24 +9,8 @@ public final class OrderTest {
         Due.due(81, "order(2)", Due.fresh(81).order(2), 2);
         Due.due(81, "order(3)", Due.fresh(81).order(3), 80);
         for (int q : Due.SIZES) {
-            everyElement(q);
-            outsidersAreRefused(q);
+            Due.everySingle(q, "order", FieldTower::order, new Reference(q)::order);
         }
         Due.end();
-    }
-
-    private static void everyElement(int q) {
-        Reference reference = new Reference(q);
-        FieldTower tower = Due.fresh(q);
-        for (int a = 0; a < q; a++) {
-            Due.due(q, "order(" + a + ")", tower.order(a), reference.order(a));
-        }
-    }
-
-    private static void outsidersAreRefused(int q) {
-        FieldTower tower = Due.fresh(q);
-        for (int outsider : Due.outsiders(q)) {
-            Due.due(q, "order(" + outsider + ")", tower.order(outsider), -1);
-        }
     }
 }
