@@ -5,21 +5,88 @@ public final class PowerTest {
     private static final int[] WRONG_EXPONENTS = {-1, -2, -63, Integer.MIN_VALUE, GREATEST + 1, 1 << 20, Integer.MAX_VALUE};
 
     public static void main(String[] args) {
-        Due.due(64, "power(0, 0)", Due.fresh(64).power(0, 0), 1);
-        Due.due(64, "power(0, 1000000)", Due.fresh(64).power(0, GREATEST), 0);
-        Due.due(64, "power(2, 6)", Due.fresh(64).power(2, 6), 3);
-        Due.due(81, "power(0, 0)", Due.fresh(81).power(0, 0), 1);
-        Due.due(81, "power(3, 4)", Due.fresh(81).power(3, 4), 4);
-        Due.due(81, "power(7, 999999)", Due.fresh(81).power(7, 999999), 78);
+        leastExponent();
+        greatestExponent();
+        wholeRound();
+        exponentOutOfRange();
+        elementOutOfRange();
+        everyElement();
+        Due.end();
+    }
+
+    private static void leastExponent() {
+        Due.sentence("a^0 is 1; a^(n+1) is the product of a^n and a.");
+        for (int q : Due.SIZES) {
+            Due.first(q, "power(0, 0)", 1);
+            Due.first(q, "power(1, 0)", 1);
+            Due.first(q, "power(2, 0)", 1);
+            Due.first(q, "power(" + (q - 1) + ", 0)", 1);
+            Due.first(q, "power(0, 1)", 0);
+            Due.first(q, "power(1, 1)", 1);
+            Due.first(q, "power(" + (q - 1) + ", 1)", q - 1);
+        }
+    }
+
+    private static void greatestExponent() {
+        Due.sentence("a^n for n from 0 to 1000000");
+        Due.first(64, "power(0, 1000000)", 0);
+        Due.first(64, "power(1, 1000000)", 1);
+        Due.first(64, "power(2, 999999)", 1);
+        Due.first(64, "power(2, 1000000)", 2);
+        Due.first(64, "power(63, 1000000)", 63);
+        Due.first(81, "power(0, 1000000)", 0);
+        Due.first(81, "power(2, 999999)", 2);
+        Due.first(81, "power(2, 1000000)", 1);
+        Due.first(81, "power(3, 999999)", 29);
+        Due.first(81, "power(7, 999999)", 78);
+        Due.first(81, "power(80, 999999)", 28);
+        Due.first(81, "power(80, 1000000)", 1);
+    }
+
+    /** t^k is the first power that is reduced; after q - 1 factors the powers begin again. */
+    private static void wholeRound() {
+        Due.sentence("a^(n+1) is the product of a^n and a.");
+        Due.first(64, "power(2, 5)", 32);
+        Due.first(64, "power(2, 6)", 3);
+        Due.first(64, "power(2, 62)", 33);
+        Due.first(64, "power(2, 63)", 1);
+        Due.first(64, "power(2, 64)", 2);
+        Due.first(81, "power(3, 3)", 27);
+        Due.first(81, "power(3, 4)", 4);
+        Due.first(81, "power(3, 79)", 29);
+        Due.first(81, "power(3, 80)", 1);
+        Due.first(81, "power(3, 81)", 3);
+    }
+
+    private static void exponentOutOfRange() {
+        Due.sentence("-1 also if n is out of its range.");
+        for (int q : Due.SIZES) {
+            for (int a = 0; a < q; a++) {
+                FieldTower tower = Due.fresh(q);
+                for (int n : WRONG_EXPONENTS) {
+                    Due.due(q, "power(" + a + ", " + n + ")", tower.power(a, n), -1);
+                }
+            }
+        }
+    }
+
+    private static void elementOutOfRange() {
+        Due.outOfRange("power(E, 0)");
+        Due.outOfRange("power(E, 1)");
+        Due.outOfRange("power(E, 2)");
+        Due.outOfRange("power(E, 1000000)");
+        Due.outOfRange("power(E, -1)");
+        Due.outOfRange("power(E, 1000001)");
+    }
+
+    private static void everyElement() {
+        Due.sentence("a^n for n from 0 to 1000000");
         for (int q : Due.SIZES) {
             Reference reference = new Reference(q);
             for (int a = 0; a < q; a++) {
                 rightExponents(reference, a);
-                wrongExponentsAreRefused(q, a);
             }
-            outsidersAreRefused(q);
         }
-        Due.end();
     }
 
     private static void rightExponents(Reference reference, int a) {
@@ -34,21 +101,5 @@ public final class PowerTest {
 
     private static void check(Reference reference, FieldTower tower, int a, int n) {
         Due.due(reference.q, "power(" + a + ", " + n + ")", tower.power(a, n), reference.power(a, n));
-    }
-
-    private static void wrongExponentsAreRefused(int q, int a) {
-        FieldTower tower = Due.fresh(q);
-        for (int n : WRONG_EXPONENTS) {
-            Due.due(q, "power(" + a + ", " + n + ")", tower.power(a, n), -1);
-        }
-    }
-
-    private static void outsidersAreRefused(int q) {
-        FieldTower tower = Due.fresh(q);
-        for (int outsider : Due.outsiders(q)) {
-            for (int n : new int[] {-1, 0, 1, 2, q, GREATEST, GREATEST + 1}) {
-                Due.due(q, "power(" + outsider + ", " + n + ")", tower.power(outsider, n), -1);
-            }
-        }
     }
 }

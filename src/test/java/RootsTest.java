@@ -5,50 +5,99 @@ public final class RootsTest {
     private static final int[] WRONG_EXPONENTS = {0, -1, -3, Integer.MIN_VALUE, GREATEST + 1, 1 << 20, Integer.MAX_VALUE};
 
     public static void main(String[] args) {
-        Due.due(64, "roots(0, 5)", Due.fresh(64).roots(0, 5), 1);
-        Due.due(64, "roots(1, 9)", Due.fresh(64).roots(1, 9), 9);
-        Due.due(64, "roots(1, 63)", Due.fresh(64).roots(1, 63), 63);
-        Due.due(64, "roots(2, 3)", Due.fresh(64).roots(2, 3), 0);
-        Due.due(81, "roots(1, 80)", Due.fresh(81).roots(1, 80), 80);
-        Due.due(81, "roots(2, 4)", Due.fresh(81).roots(2, 4), 4);
-        Due.due(81, "roots(1, 1000000)", Due.fresh(81).roots(1, GREATEST), 80);
-        for (int q : Due.SIZES) {
-            Reference reference = new Reference(q);
-            for (int n = 1; n <= 170; n++) {
-                everyElement(reference, n);
-            }
-            for (int n : GREAT_EXPONENTS) {
-                everyElement(reference, n);
-            }
-            for (int n : WRONG_EXPONENTS) {
-                wrongExponentIsRefused(q, n);
-            }
-            outsidersAreRefused(q);
-        }
+        noneAndAll();
+        leastExponent();
+        greatestExponent();
+        exponentOutOfRange();
+        elementOutOfRange();
+        everyElement();
         Due.end();
     }
 
-    private static void everyElement(Reference reference, int n) {
+    /** A number of roots goes from 0 to q - 1: never q, since 0 alone has the power 0. */
+    private static void noneAndAll() {
+        Due.sentence("The number of elements x with x^n = a");
+        Due.first(64, "roots(2, 3)", 0);
+        Due.first(64, "roots(0, 5)", 1);
+        Due.first(64, "roots(0, 63)", 1);
+        Due.first(64, "roots(1, 9)", 9);
+        Due.first(64, "roots(1, 62)", 1);
+        Due.first(64, "roots(1, 63)", 63);
+        Due.first(64, "roots(1, 64)", 1);
+        Due.first(64, "roots(63, 63)", 0);
+        Due.first(81, "roots(3, 2)", 0);
+        Due.first(81, "roots(0, 80)", 1);
+        Due.first(81, "roots(2, 4)", 4);
+        Due.first(81, "roots(1, 79)", 1);
+        Due.first(81, "roots(1, 80)", 80);
+        Due.first(81, "roots(1, 81)", 1);
+        Due.first(81, "roots(80, 80)", 0);
+    }
+
+    private static void leastExponent() {
+        Due.sentence("for n from 1");
+        for (int q : Due.SIZES) {
+            Due.first(q, "roots(0, 1)", 1);
+            Due.first(q, "roots(1, 1)", 1);
+            Due.first(q, "roots(" + (q - 1) + ", 1)", 1);
+            Due.first(q, "roots(0, 0)", -1);
+            Due.first(q, "roots(1, 0)", -1);
+            Due.first(q, "roots(" + (q - 1) + ", 0)", -1);
+        }
+    }
+
+    private static void greatestExponent() {
+        Due.sentence("to 1000000");
+        Due.first(64, "roots(0, 1000000)", 1);
+        Due.first(64, "roots(1, 999999)", 63);
+        Due.first(64, "roots(1, 1000000)", 1);
+        Due.first(64, "roots(63, 1000000)", 1);
+        Due.first(64, "roots(63, 1000001)", -1);
+        Due.first(81, "roots(0, 1000000)", 1);
+        Due.first(81, "roots(1, 999999)", 1);
+        Due.first(81, "roots(1, 1000000)", 80);
+        Due.first(81, "roots(80, 1000000)", 0);
+        Due.first(81, "roots(80, 1000001)", -1);
+    }
+
+    private static void exponentOutOfRange() {
+        Due.sentence("-1 also if n is out of its range.");
+        for (int q : Due.SIZES) {
+            for (int n : WRONG_EXPONENTS) {
+                FieldTower tower = Due.fresh(q);
+                for (int a = 0; a < q; a++) {
+                    Due.due(q, "roots(" + a + ", " + n + ")", tower.roots(a, n), -1);
+                }
+            }
+        }
+    }
+
+    private static void elementOutOfRange() {
+        Due.outOfRange("roots(E, 1)");
+        Due.outOfRange("roots(E, 2)");
+        Due.outOfRange("roots(E, 1000000)");
+        Due.outOfRange("roots(E, 0)");
+        Due.outOfRange("roots(E, 1000001)");
+    }
+
+    private static void everyElement() {
+        Due.sentence("The number of elements x with x^n = a, for n from 1 to 1000000");
+        for (int q : Due.SIZES) {
+            Reference reference = new Reference(q);
+            for (int n = 1; n <= 170; n++) {
+                oneExponent(reference, n);
+            }
+            for (int n : GREAT_EXPONENTS) {
+                oneExponent(reference, n);
+            }
+        }
+    }
+
+    private static void oneExponent(Reference reference, int n) {
         FieldTower tower = Due.fresh(reference.q);
         int[] counts = reference.rootCounts(n);
         for (int a = 0; a < reference.q; a++) {
             Due.due(reference.q, "roots(" + a + ", " + n + ")", tower.roots(a, n), counts[a]);
-        }
-    }
-
-    private static void wrongExponentIsRefused(int q, int n) {
-        FieldTower tower = Due.fresh(q);
-        for (int a = 0; a < q; a++) {
-            Due.due(q, "roots(" + a + ", " + n + ")", tower.roots(a, n), -1);
-        }
-    }
-
-    private static void outsidersAreRefused(int q) {
-        FieldTower tower = Due.fresh(q);
-        for (int outsider : Due.outsiders(q)) {
-            for (int n : new int[] {-1, 0, 1, 2, q, GREATEST, GREATEST + 1}) {
-                Due.due(q, "roots(" + outsider + ", " + n + ")", tower.roots(outsider, n), -1);
-            }
         }
     }
 }
