@@ -25,6 +25,15 @@ final class Due {
         }
     }
 
+    /** For what is not the answer of a call, such as the list of the class's methods. */
+    static void same(String what, Object found, Object want) {
+        checked++;
+        if (!found.equals(want)) {
+            wrong++;
+            System.out.println(sentence + " | " + what + ": found " + found + ", due is " + want);
+        }
+    }
+
     /** One call on an object that has q in use. */
     static void on(FieldTower tower, int q, String call, int want) {
         due(q, call, new Call(call).on(tower), want);

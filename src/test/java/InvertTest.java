@@ -2,6 +2,7 @@
 public final class InvertTest {
     public static void main(String[] args) {
         inverse();
+        exactlyOne();
         ofZero();
         Due.outOfRange("invert(E)");
         Due.sentence("The inverse of the element");
@@ -20,6 +21,21 @@ public final class InvertTest {
         Due.first(81, "invert(2)", 2);
         Due.first(81, "invert(3)", 29);
         Due.first(81, "invert(80)", 28);
+    }
+
+    /** By the class's own products, without the second reckoning. */
+    private static void exactlyOne() {
+        Due.sentence("every element other than 0 has exactly one INVERSE, with which its product is 1");
+        for (int q : Due.SIZES) {
+            for (int a = 1; a < q; a++) {
+                FieldTower tower = Due.fresh(q);
+                int inverse = tower.invert(a);
+                for (int b = 0; b < q; b++) {
+                    boolean isOne = tower.multiply(a, b) == 1;
+                    Due.due(q, "multiply(" + a + ", " + b + ") == 1", isOne ? 1 : 0, b == inverse ? 1 : 0);
+                }
+            }
+        }
     }
 
     private static void ofZero() {

@@ -1,6 +1,7 @@
 /** Promise 6: a^n for n from 0 to 1000000; -1 for another n. */
 public final class PowerTest {
     private static final int GREATEST = 1000000;
+    private static final int STRIDE = 97;
     private static final int[] GREAT_EXPONENTS = {65535, 65536, 262143, 524287, 524288, 786431, GREATEST - 1, GREATEST};
     private static final int[] WRONG_EXPONENTS = {-1, -2, -63, Integer.MIN_VALUE, GREATEST + 1, 1 << 20, Integer.MAX_VALUE};
 
@@ -11,6 +12,7 @@ public final class PowerTest {
         exponentOutOfRange();
         elementOutOfRange();
         everyElement();
+        wholeRange();
         Due.end();
     }
 
@@ -96,6 +98,22 @@ public final class PowerTest {
         }
         for (int n : GREAT_EXPONENTS) {
             check(reference, tower, a, n);
+        }
+    }
+
+    /** STRIDE has no factor in common with 63 or 80, so that every remainder of n comes up. */
+    private static void wholeRange() {
+        Due.sentence("a^n for n from 0 to 1000000 (through the whole range)");
+        for (int q : Due.SIZES) {
+            Reference reference = new Reference(q);
+            int t = reference.p;
+            int due = 1;
+            for (int n = 0; n <= GREATEST; n++) {
+                if (n % STRIDE == 0) {
+                    Due.first(q, "power(" + t + ", " + n + ")", due);
+                }
+                due = reference.product(due, t);
+            }
         }
     }
 

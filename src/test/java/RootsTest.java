@@ -1,6 +1,9 @@
+import java.util.Arrays;
+
 /** Promise 9: the number of elements x with x^n = a for n from 1 to 1000000; -1 for another n. */
 public final class RootsTest {
     private static final int GREATEST = 1000000;
+    private static final int STRIDE = 997;
     private static final int[] GREAT_EXPONENTS = {65536, 524287, 524288, 999936, 999999, GREATEST};
     private static final int[] WRONG_EXPONENTS = {0, -1, -3, Integer.MIN_VALUE, GREATEST + 1, 1 << 20, Integer.MAX_VALUE};
 
@@ -11,6 +14,7 @@ public final class RootsTest {
         exponentOutOfRange();
         elementOutOfRange();
         everyElement();
+        wholeRange();
         Due.end();
     }
 
@@ -91,6 +95,34 @@ public final class RootsTest {
                 oneExponent(reference, n);
             }
         }
+    }
+
+    /** STRIDE has no factor in common with 63 or 80, so that every remainder of n comes up. */
+    private static void wholeRange() {
+        Due.sentence("The number of elements x with x^n = a, for n from 1 to 1000000 (through the whole range)");
+        for (int q : Due.SIZES) {
+            Reference reference = new Reference(q);
+            int[] powers = new int[q];
+            Arrays.fill(powers, 1);
+            for (int n = 1; n <= GREATEST; n++) {
+                for (int x = 0; x < q; x++) {
+                    powers[x] = reference.product(powers[x], x);
+                }
+                if (n % STRIDE == 0) {
+                    timesAmong(powers, powers[n % q], n);
+                    timesAmong(powers, q / 3, n);
+                }
+            }
+        }
+    }
+
+    /** The powers are those of every x, so a's roots are as many as its places among them. */
+    private static void timesAmong(int[] powers, int a, int n) {
+        int due = 0;
+        for (int power : powers) {
+            due += power == a ? 1 : 0;
+        }
+        Due.first(powers.length, "roots(" + a + ", " + n + ")", due);
     }
 
     private static void oneExponent(Reference reference, int n) {
